@@ -179,7 +179,7 @@ public final class QueriesTest extends Check {
 
     private static void weightFor() {
         PillowBarge b = new PillowBarge();
-        b.load(3, 5, 1);
+        b.load(0, 5, 1);
         b.load(2, 7, 1);
         b.load(4, 2, 4);
         b.load(4, 3, 0);
@@ -241,6 +241,12 @@ public final class QueriesTest extends Check {
             dueThrow("24 levelingBay for " + weight, ARGUMENT, () -> b.levelingBay(weight));
         }
         due("24 nothing is loaded", b.pillowCount(), 1);
+        PillowBarge other = new PillowBarge();
+        other.load(6, 10, 0);
+        due("24 levelingBay", other.levelingBay(10), 0);
+        due("24 levelingBay", other.levelingBay(15), 1);
+        due("24 of two bays the lower index", other.levelingBay(20), 1);
+        due("24 levelingBay", other.levelingBay(18), 1);
     }
 
     private static void levelingBayTies() {
@@ -363,6 +369,10 @@ public final class QueriesTest extends Check {
         dueInTheWay(b, 2, 1, 0, 0, 1, 0);
         b.shift(3, 6);
         dueInTheWay(b, 4, 1, 0, 0, 2, 1);
+        b.load(0, 1, 1);
+        b.load(0, 1, 3);
+        b.load(0, 1, 4);
+        dueInTheWay(b, 7, 1, 0, 0, 2, 1, 2, 1, 0);
     }
 
     private static void unloadableCount() {
@@ -432,6 +442,8 @@ public final class QueriesTest extends Check {
         due("36 possibleShifts to the limit", b.possibleShifts(), 6);
         b.load(2, 1, 0);
         due("36 possibleShifts within the limit", b.possibleShifts(), 11);
+        b.load(0, 1, 0);
+        due("36 possibleShifts from bay 0", b.possibleShifts(), 17);
     }
 
     private static void possibleShiftsToFullStacks() {
@@ -494,7 +506,7 @@ public final class QueriesTest extends Check {
     private static void meanAge() {
         PillowBarge b = new PillowBarge();
         dueThrow("44 meanAge", ARITHMETIC, () -> b.meanAge());
-        b.load(3, 1, 0);
+        b.load(0, 1, 0);
         due("44 meanAge", b.meanAge(), 0.0);
         b.sail(2);
         b.load(3, 1, 3);
@@ -505,7 +517,7 @@ public final class QueriesTest extends Check {
         b.unload(3);
         b.unload(3);
         b.sail(2);
-        b.unload(3);
+        b.unload(0);
         dueThrow("44 meanAge after the last delivery", ARITHMETIC, () -> b.meanAge());
     }
 

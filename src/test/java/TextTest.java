@@ -8,6 +8,8 @@ public final class TextTest extends Check {
         typeIntoFullBuffer();
         runScript();
         runEveryCommand();
+        runDrills();
+        runShorterScript();
         runMostCommands();
         runFailedScript();
         runMalformedScript();
@@ -127,6 +129,37 @@ public final class TextTest extends Check {
         due("51 drill", runScript(b, "drill -99;drill 5;drill -0;drill -07;drill 00;drill 99"), 6);
         due("51 drill", b.drillTotal(), 10);
         due("51 drill", b.capsizedTotal(), 4);
+    }
+
+    private static void runDrills() {
+        dueDrill("drill 60", 0);
+        dueDrill("drill 61", 1);
+        dueDrill("drill -60", 0);
+        dueDrill("drill -61", 1);
+        dueDrill("drill 6", 0);
+        dueDrill("drill -9", 0);
+    }
+
+    private static void dueDrill(String script, int capsized) {
+        PillowBarge b = new PillowBarge();
+        due("51 runScript of " + script, runScript(b, script), 1);
+        due("51 drillTotal of " + script, b.drillTotal(), 1);
+        due("51 capsizedTotal of " + script, b.capsizedTotal(), capsized);
+    }
+
+    private static void runShorterScript() {
+        PillowBarge b = new PillowBarge();
+        runScript(b, "sail 12;turn");
+        due("51 a shorter script", runScript(b, "sail 1"), 1);
+        due("51 day", b.day(), 13);
+        due("51 a shorter script", runScript(b, "sail"), 1);
+        due("51 day", b.day(), 14);
+        dueThrow("51 a beginning of the former script", ARGUMENT, () -> runScript(b, "sai"));
+        due("52 errorPosition", b.errorPosition(), 3);
+        runScript(b, "limit 75");
+        dueThrow("51 a beginning of the former script", ARGUMENT, () -> runScript(b, "limit "));
+        due("52 errorPosition", b.errorPosition(), 6);
+        due("51 limit", b.limit(), 75);
     }
 
     private static void runMostCommands() {

@@ -3,6 +3,7 @@ public final class UndoTest extends Check {
     public static void main(String[] args) {
         undoLatestEight();
         undoEachChange();
+        undoReplacedPillows();
         undoChangesWithoutEffect();
         undoAfterUndo();
         undoScripts();
@@ -75,6 +76,27 @@ public final class UndoTest extends Check {
                 .append(' ').append(b.limit()).append(' ').append(b.loadedTotal())
                 .append(' ').append(b.deliveredTotal()).append(' ').append(b.deliveredWeight())
                 .append(' ').append(b.drillTotal()).append(' ').append(b.capsizedTotal()).toString();
+    }
+
+    private static void undoReplacedPillows() {
+        PillowBarge b = new PillowBarge();
+        b.load(4, 12, 0);
+        b.save();
+        String saved = state(b);
+        b.sail(5);
+        b.unload(4);
+        b.load(4, 3, 2);
+        due("54 another pillow in its place", output(b, b.renderStack(4)), "1w3p2");
+        b.undo();
+        b.undo();
+        due("54 the pillow before", output(b, b.renderStack(4)), "0w12p0");
+        due("54 its age", b.ageOf(0), 5);
+        b.unload(4);
+        b.load(4, 3, 2);
+        b.restore();
+        due("56 the pillow before", output(b, b.renderStack(4)), "0w12p0");
+        due("56 its age", b.ageOf(0), 0);
+        due("56 the saved state", state(b), saved);
     }
 
     private static void undoChangesWithoutEffect() {
