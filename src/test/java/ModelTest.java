@@ -64,6 +64,10 @@ public final class ModelTest extends Check {
     }
 
     private void same(String name, Call barge, Call model) {
+        // What an object answers after its 512th call is free.
+        if (call == CALLS) {
+            return;
+        }
         call++;
         due("run " + run + ", call " + call + ": " + name, outcome(barge), outcome(model));
     }
