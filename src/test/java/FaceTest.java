@@ -70,13 +70,18 @@ public final class FaceTest extends Check {
         return String.join(", ", names);
     }
 
-    private static void hiddenMembers() {
+    private static Set<String> openNames() {
         Set<String> open = new TreeSet<>();
         for (Method method : PillowBarge.class.getDeclaredMethods()) {
             if (Modifier.isPublic(method.getModifiers())) {
                 open.add(method.getName());
             }
         }
+        return open;
+    }
+
+    private static void hiddenMembers() {
+        Set<String> open = openNames();
         for (Method method : PillowBarge.class.getDeclaredMethods()) {
             if (!Modifier.isPublic(method.getModifiers())) {
                 due("rule 1, private " + method.getName(), Modifier.isPrivate(method.getModifiers()), true);
@@ -90,11 +95,15 @@ public final class FaceTest extends Check {
     }
 
     private static void nestedClasses() {
+        Set<String> open = openNames();
         for (Class<?> nested : PillowBarge.class.getDeclaredClasses()) {
             due("rule 1, static " + nested.getName(), Modifier.isStatic(nested.getModifiers()), true);
             due("rule 1, hidden " + nested.getName(), Modifier.isPublic(nested.getModifiers()), false);
             for (Field field : nested.getDeclaredFields()) {
                 dueFinalIfStatic(field);
+            }
+            for (Method method : nested.getDeclaredMethods()) {
+                due("rule 1, the name of " + method.getName(), open.contains(method.getName()), false);
             }
         }
         due("rule 11, some twelve classes", PillowBarge.class.getDeclaredClasses().length <= 12, true);
